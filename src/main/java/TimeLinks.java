@@ -239,7 +239,7 @@ public final class TimeLinks {
         alive.gather(spans, time);
         int bits = 0;
         for (int i = 0; i < alive.size; i++) {
-            if (!alive.areJoined(alive.lesser[i], alive.other[i], alive.all() ^ 1 << i)) {
+            if (!alive.areJoined(alive.lesser[i], alive.other[i], alive.all() ^ (1 << i))) {
                 bits |= 1 << alive.number[i];
             }
         }
@@ -528,7 +528,7 @@ public final class TimeLinks {
         if (!isTime(from) || !isTime(to) || to < from) {
             return 0;
         }
-        return ALL_TIMES >> TIMES - 1 - (to - from) << from;
+        return (ALL_TIMES >> (TIMES - 1 - (to - from))) << from;
     }
 
     private static int lowestBit(int times) {
@@ -597,7 +597,7 @@ public final class TimeLinks {
         }
 
         int firstFault() {
-            forget();
+            forgetLinks();
             if (length == 0 || letters[0] != 'L') {
                 return 0;
             }
@@ -613,8 +613,7 @@ public final class TimeLinks {
             return place < length ? place : NONE;
         }
 
-        private void forget() {
-            events = 0;
+        private void forgetLinks() {
             links = 0;
             for (int knot = 0; knot < KNOTS; knot++) {
                 linkedWith[knot] = 0;
@@ -626,7 +625,7 @@ public final class TimeLinks {
             if (head == '.') {
                 return NONE;
             }
-            if (head != '+' && head != '-' || head == '-' && links == 0) {
+            if (head != '+' && (head != '-' || links == 0)) {
                 return place;
             }
             if (place + 1 >= length) {
@@ -645,7 +644,7 @@ public final class TimeLinks {
 
         /** The KNOTS (bits) that may stand behind this one, in an EVENT of that sign. */
         private int partners(int knot, char head) {
-            int others = (1 << KNOTS) - 1 ^ 1 << knot;
+            int others = ((1 << KNOTS) - 1) ^ (1 << knot);
             return head == '+' ? others & ~linkedWith[knot] : linkedWith[knot];
         }
 
@@ -942,7 +941,7 @@ public final class TimeLinks {
         }
 
         private boolean hangsBelow(int root, int another) {
-            return size[root] < size[another] || size[root] == size[another] && root > another;
+            return size[root] < size[another] || (size[root] == size[another] && root > another);
         }
 
         private void hang(int root, int below, int between) {
@@ -1036,7 +1035,7 @@ public final class TimeLinks {
                     number[size] = span;
                     lesser[size] = spans.lesser[span];
                     other[size] = spans.other[span];
-                    pair[size] = 1 << spans.lesser[span] | 1 << spans.other[span];
+                    pair[size] = (1 << spans.lesser[span]) | (1 << spans.other[span]);
                     size++;
                 }
             }

@@ -144,6 +144,16 @@ public final class PromiseTest {
         isFault("L...............+0", 18);
         isFault("L+01+02+03+04+05+06+07+12+13+14+15+16+17+23+24+25", NONE);
         isFault("L+01+02+03+04+05+06+07+12+13+14+15+16+17+23+24+25.", 49);
+        TimeLinks old = written("L+01+02");
+        due("fault", old.fault(), NONE);
+        rewrite(old, "L+0");
+        due("letters that were wiped are gone", old.fault(), 3);
+        rewrite(old, "L+");
+        due("letters that were wiped are gone", old.fault(), 2);
+        rewrite(old, "L-01");
+        due("LINKS that were wiped are gone", old.fault(), 1);
+        rewrite(old, "L+01");
+        due("LINKS that were wiped are gone", old.fault(), NONE);
         TimeLinks x = written("L+01");
         x.fault();
         due("fault changes nothing", x.count(1) + x.count(0), 4);
@@ -158,6 +168,7 @@ public final class PromiseTest {
         due("life again", x.life(), 3);
         due("THE TEXT stays", x.count(0), 17);
         due("put", x.put(3, 4, 0, 0), 3);
+        due("keep", x.keep(0), 4);
         due("keep", x.keep(1), 4);
         due("see", x.see(0, 1, 2, 1), 1);
         x.seed(99);
@@ -172,6 +183,7 @@ public final class PromiseTest {
         isSpan(x, 0, "67ff");
         due("THE ROW is empty", x.count(4), 0);
         due("undo", x.undo(), STATE);
+        due("what was kept is gone", x.again(0), STATE);
         due("what was kept is gone", x.again(1), STATE);
         due("SEEN stays", x.count(5), 1);
         due("THE SEED stays", x.seed(0), 99);
@@ -262,6 +274,10 @@ public final class PromiseTest {
         due("cut(0)", x.cut(0), 0);
         due("cut(0)", x.cut(0), UNKNOWN);
         due("three were PUT, three CUT", x.count(4), 6);
+        TimeLinks z = with("0101", "6723", "2345");
+        due("cut(0)", z.cut(0), 2);
+        isSpan(z, 0, "6723");
+        isSpan(z, 1, "2345");
         TimeLinks y = living("L+01+02+03+04+05+06+07+12+13+14+15+16+17+23+24+25", 16);
         for (int left = 15; left >= 0; left--) {
             due("cut(0)", y.cut(0), left);
@@ -336,6 +352,9 @@ public final class PromiseTest {
         due("two ODD PARTS", two.at(3, 2), 2);
         two.put(0, 3, 3, 3);
         due("two ODD PARTS joined", two.at(3, 2), 1);
+        TimeLinks below = with("010f", "120f", "230f", "560f", "670f", "570f", "050f");
+        due("an ODD PART below one that is not", below.at(3, 2) * 10 + below.at(3, 4), 17);
+        due("none live", below.at(0, 1) + with("0111").at(0, 1), 127);
         TimeLinks ring = with("010f", "120f", "230f", "030f");
         due("an even ring", ring.at(3, 2), 0);
         TimeLinks deep = with("010f", "230f", "020f", "450f", "670f", "460f", "040f");
@@ -421,6 +440,8 @@ public final class PromiseTest {
         TimeLinks x = with("011e", "120f", "028f");
         due("work(0)", x.work(0), 8);
         due("work(1): the first three of 01 below NODE 2, that of 02, none of 01 below NODE 3", x.work(1), 5);
+        due("work(0) of NODE 31 alone", with("01ff").work(0), 1);
+        due("work(1) of NODE 31 alone", with("01ff").work(1), 1);
         due("work(2)", x.work(2), OUTSIDE);
         due("work(-1)", x.work(-1), OUTSIDE);
     }
@@ -508,6 +529,11 @@ public final class PromiseTest {
         due("no PARTS", x.judge(1, 50005), NONE);
         due("PARTS at no TIME", x.judge(1, 50016), 0);
         due("PARTS with a figure that is not 0", x.judge(1, 51005), 0);
+        due("PUT of the first", new TimeLinks().judge(2, 1230042304), 1);
+        due("PUT of the first", new TimeLinks().judge(2, 1230042300), NONE);
+        due("CUT of the last", with("0101").judge(2, 2000050801), NONE);
+        due("ENDED behind TIME 0", with("0100").judge(1, 30009), NONE);
+        due("a row of 0", x.judge(1, 0), 0);
         due("no such doing", x.judge(1, 60000), 0);
         due("no such doing", x.judge(1, 101), 0);
         due("CUT, then the other one has its number", x.judge(2, 2000020001L), 1);
