@@ -183,6 +183,10 @@ public final class TimeLinks {
         if (!isKnot(a) || !isKnot(b) || !isTime(time)) {
             return UNKNOWN;
         }
+        // STATE speaks of two KNOTS, so one is on its own side in an ODD PART too.
+        if (a == b) {
+            return 0;
+        }
         forest.walkToTime(spans, time);
         if (!forest.areJoined(a, b) || forest.odd[forest.rootOf(a)]) {
             return STATE;

@@ -303,6 +303,7 @@ public final class ModelTest {
 
         int side(int a, int b, int time) {
             if (!in(a, 0, 7) || !in(b, 0, 7) || !in(time, 0, 15)) return UNKNOWN;
+            if (a == b) return 0;
             int ways = ways(a, time, -1)[b];
             return ways == 1 ? 0 : ways == 2 ? 1 : STATE;
         }

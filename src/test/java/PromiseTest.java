@@ -423,7 +423,9 @@ public final class PromiseTest {
         due("side(0, 5, 0)", x.side(0, 5, 0), STATE);
         due("side(7, 7, 0)", x.side(7, 7, 0), 0);
         due("side(2, 2, 0)", x.side(2, 2, 0), 0);
-        due("side(2, 2, 5): its PART is ODD", x.side(2, 2, 5), STATE);
+        for (int k = 0; k < 8; k++) {
+            due("side(" + k + ", " + k + ", 5), in an ODD PART too", x.side(k, k, 5), 0);
+        }
         for (int k : WRONG_KNOTS) {
             due("side(" + k + ", 0, 0)", x.side(k, 0, 0), UNKNOWN);
             due("side(0, " + k + ", 0)", x.side(0, k, 0), UNKNOWN);
